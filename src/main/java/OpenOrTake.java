@@ -555,7 +555,7 @@ public final class OpenOrTake {
 
         private final char[] sign = new char[LONGEST];
         /** Of a NUMBER its value, of a NAME which it is, of IF_NOT_0 where its line ends. */
-        private final int[] number = new int[LONGEST];
+        private final int[] detail = new int[LONGEST];
         private int length = 0;
         private int latestIf = NONE;
         private final int[] stack = new int[LONGEST];
@@ -564,7 +564,7 @@ public final class OpenOrTake {
         /** Without a text it is w. */
         Law() {
             sign[0] = NAME;
-            number[0] = W;
+            detail[0] = W;
             sign[1] = END_OF_LINE;
             length = 2;
         }
@@ -577,7 +577,7 @@ public final class OpenOrTake {
         void write(char what, int value) {
             if (length < LONGEST) {
                 sign[length] = what;
-                number[length] = value;
+                detail[length] = value;
                 length++;
             }
         }
@@ -589,7 +589,7 @@ public final class OpenOrTake {
 
         void writeEndOfLine() {
             if (latestIf >= 0 && latestIf < LONGEST) {
-                number[latestIf] = length;
+                detail[latestIf] = length;
             }
             latestIf = NONE;
             write(END_OF_LINE, 0);
@@ -615,29 +615,17 @@ public final class OpenOrTake {
             }
         }
 
-        /** The number of opening: what is told of who has a parcel is 0 there. */
-        int ofOpening(int guess, int wrapped) {
-            Arrays.fill(named, 0);
-            named[W] = guess;
-            named[O] = 1;
-            named[R] = wrapped;
-            return value();
-        }
-
-        int ofTaking(int worth, int worthForHolder, int takenBefore, int likeForHolder, int wrapped) {
-            named[W] = worth;
-            named[X] = worthForHolder;
-            named[T] = takenBefore;
-            named[L] = likeForHolder;
-            named[O] = 0;
-            named[R] = wrapped;
-            return value();
-        }
-
-        private int value() {
+        /** The number of one thing to do, by what the NAMES tell of it. */
+        int number(int w, int x, int t, int l, int o, int r) {
+            named[W] = w;
+            named[X] = x;
+            named[T] = t;
+            named[L] = l;
+            named[O] = o;
+            named[R] = r;
             int top = 0;
             for (int at = 0; at < length && at < LONGEST && top < LONGEST; at++) {
-                int own = number[at];
+                int own = detail[at];
                 switch (sign[at]) {
                     case END_OF_LINE:
                         return top < 1 ? 0 : stack[top - 1];
@@ -1001,7 +989,9 @@ public final class OpenOrTake {
             int count = 0;
             int who = whoseTurn(party);
             while (count < MOST_TURNS && who >= 0 && opened < manyOpened) {
-                int parcel = wish(who, party);
+                int way = party.way[who];
+                int parcel = way == 2 ? byTheLaw(who, party)
+                        : way == 1 ? fromWhomItLikesLeast(who, party) : ofMostWorth(who, party);
                 if (parcel == NONE) {
                     unwrap(who);
                 } else {
@@ -1013,18 +1003,6 @@ public final class OpenOrTake {
             return count;
         }
 
-        /** The parcel that one takes by its way; NONE: it opens. */
-        private int wish(int who, Party party) {
-            switch (party.way[who]) {
-                case 1:
-                    return fromWhomItLikesLeast(who, party);
-                case 2:
-                    return byTheLaw(who, party);
-                default:
-                    return ofMostWorth(who, party);
-            }
-        }
-
         private int guess(int who, Party party) {
             int wrapped = party.people - opened;
             int sum = 0;
@@ -1034,6 +1012,7 @@ public final class OpenOrTake {
             return wrapped <= 0 ? 0 : sum / wrapped;
         }
 
+        /** WAY 0: the parcel that one takes; NONE: it opens. */
         private int ofMostWorth(int who, Party party) {
             int most = guess(who, party);
             int wished = NONE;
@@ -1046,6 +1025,7 @@ public final class OpenOrTake {
             return wished;
         }
 
+        /** WAY 1, likewise. */
         private int fromWhomItLikesLeast(int who, Party party) {
             int guess = guess(who, party);
             int least = Integer.MAX_VALUE;
@@ -1060,16 +1040,17 @@ public final class OpenOrTake {
             return wished;
         }
 
+        /** WAY 2, likewise. */
         private int byTheLaw(int who, Party party) {
             int wrapped = party.people - opened;
-            int greatest = party.law.ofOpening(guess(who, party), wrapped);
+            int greatest = party.law.number(guess(who, party), 0, 0, 0, 1, wrapped);
             int wished = NONE;
             for (int parcel = 0; parcel < opened; parcel++) {
                 if (mayRob(parcel, party)) {
                     int from = holder[parcel];
-                    int number = party.law.ofTaking(party.worthFor(who, parcel),
+                    int number = party.law.number(party.worthFor(who, parcel),
                             party.worthFor(from, parcel), taken[parcel],
-                            party.likeFor(who, from), wrapped);
+                            party.likeFor(who, from), 0, wrapped);
                     if (number > greatest) {
                         greatest = number;
                         wished = parcel;
