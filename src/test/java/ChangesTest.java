@@ -8,6 +8,7 @@ public final class ChangesTest {
         undo();
         redoIsLost();
         fortyAtMost();
+        fortyUnlikeOnes();
         allSorts();
         due.end();
     }
@@ -50,6 +51,7 @@ public final class ChangesTest {
 
     private static void imageAndPeople() {
         OpenOrTake x = new OpenOrTake();
+        due.is("none of nobody", x.back(), -5);
         due.is("of nobody", x.image(), 0);
         due.is("of nobody", x.back(), 0);
         x.person(0);
@@ -118,6 +120,29 @@ public final class ChangesTest {
             due.is("worth", x.of(0, 0), 5 + i);
         }
         due.is("no more", x.redo(), -5);
+    }
+
+    /** Unlike ones, so that all that is kept of a change moves along. */
+    private static void fortyUnlikeOnes() {
+        OpenOrTake x = Due.party(0, 0, 0, 0, 0, 0, 0);
+        for (int i = 0; i < 49; i++) {
+            x.mend(10 * (i / 7) + i % 7, 0, i + 1);
+        }
+        x.mend(0, 3, 2);
+        for (int i = 0; i < 40; i++) {
+            x.undo();
+        }
+        due.is("most", x.of(0, 3), 3);
+        for (int i = 0; i < 49; i++) {
+            due.is("worth " + i, x.of(10 * (i / 7) + i % 7, 0), i < 10 ? i + 1 : 0);
+        }
+        for (int i = 0; i < 40; i++) {
+            x.redo();
+        }
+        due.is("most", x.of(0, 3), 2);
+        for (int i = 0; i < 49; i++) {
+            due.is("worth " + i, x.of(10 * (i / 7) + i % 7, 0), i + 1);
+        }
     }
 
     private static void allSorts() {

@@ -226,6 +226,11 @@ public final class DeedTest {
         due.is("no robbing is left over", x.take(0), -2);
         due.is("opens", x.open(), 0);
         due.is("what was taken just now is forgotten", x.take(0), 2);
+        x.open();
+        x.take(0);
+        due.is("1 was robbed", x.turn(), 1);
+        x.anew();
+        due.is("nobody was robbed any more", x.turn(), 2);
         x.goOn();
         x.mend(0, 4, 1);
         due.is("again", x.again() >= 0 ? 1 : 0, 1);

@@ -3,6 +3,7 @@ public final class LawTest {
     private static final Due due = new Due("LawTest");
 
     public static void main(String[] args) {
+        withoutAText();
         theTape();
         faults();
         texts();
@@ -33,6 +34,26 @@ public final class LawTest {
         }
         due.is("sixty lines", x.law(), 1);
         due.is("the tape is empty", x.feed('w'), 1);
+    }
+
+    /** Without a text it is w: that with most worth, if that is more than the guess. */
+    private static void withoutAText() {
+        OpenOrTake x = Due.party(0, 0, 2, 0);
+        Due.worths(x, new int[][] {{0}, {0}, {40, 50, 39, 60}});
+        x.open();
+        x.open();
+        x.image();
+        x.goOn();
+        due.is("50 for a guess of 49", x.of(2, 11), 1);
+        x.back();
+        x.mend(22, 0, 40);
+        x.goOn();
+        due.is("50 for a guess of 50: opens", x.of(2, 11), 2);
+        x.back();
+        due.is("a fault is no text", Due.law(x, "o+"), -102);
+        x.mend(21, 0, 51);
+        x.goOn();
+        due.is("51 for a guess of 50", x.of(2, 11), 1);
     }
 
     private static void faults() {

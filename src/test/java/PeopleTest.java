@@ -109,6 +109,9 @@ public final class PeopleTest {
         due.is("not the other way round", x.of(21, 1), 5);
         due.is("a way", x.mend(2, 2, 2), 0);
         due.is("of way", x.of(2, 2), 2);
+        due.is("way 0 again", x.mend(2, 2, 0), 2);
+        due.is("worth 0 again", x.mend(12, 0, 0), 1);
+        due.is("like 0", x.mend(12, 1, 0), 9);
         due.is("most", x.mend(0, 3, 1), 3);
         due.is("of most", x.of(0, 3), 1);
         due.is("again 1", x.mend(0, 4, 1), 0);

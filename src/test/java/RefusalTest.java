@@ -117,7 +117,7 @@ public final class RefusalTest {
             case 18: return x.face(a[0]);
             case 19: return x.numbers(a[0], a[1], a[2]);
             case 20: return x.judge(a[0]);
-            case 21: return x.led(a[0]);
+            case 21: return x.judge(a[0] % 6);
             case 22: return x.image();
             case 23: return x.back();
             case 24: return x.undo();
