@@ -1,3 +1,9 @@
+import java.util.ArrayDeque;
+import java.util.ArrayList;
+import java.util.Deque;
+import java.util.List;
+import java.util.Random;
+
 /** Promises 24 to 27: an image, and changes undone and done again. */
 public final class ChangesTest {
     private static final Due due = new Due("ChangesTest");
@@ -10,6 +16,10 @@ public final class ChangesTest {
         fortyAtMost();
         fortyUnlikeOnes();
         allSorts();
+        toTheSame();
+        toTheSameKeepsRedo();
+        toTheSameForgetsNone();
+        byChance();
         due.end();
     }
 
@@ -162,5 +172,117 @@ public final class ChangesTest {
             due.is("as it became", x.of(changes[i][0], changes[i][1]), changes[i][2]);
         }
         due.is("turns are no changes", x.of(0, 11), 0);
+    }
+
+    /** What becomes as it was already is no change. */
+    private static void toTheSame() {
+        OpenOrTake told = Due.party(0, 1);
+        due.is("what it was", told.mend(1, 2, 1), 1);
+        due.is("no WAY has changed", told.undo(), -5);
+        int[][] changes = {{10, 0, 0, 7}, {10, 1, 5, 6}, {1, 2, 0, 2}, {0, 3, 3, 1}, {0, 4, 0, 1}};
+        for (int[] change : changes) {
+            OpenOrTake x = Due.party(0, 0);
+            due.is("as at first", x.mend(change[0], change[1], change[2]), change[2]);
+            due.is("none", x.count(4), 0);
+            due.is("none", x.undo(), -5);
+            due.is("none", x.redo(), -5);
+            x.mend(change[0], change[1], change[3]);
+            due.is("the same once more", x.mend(change[0], change[1], change[3]), change[3]);
+            due.is("one", x.count(4), 1);
+            due.is("one", x.undo(), 0);
+            due.is("as it was", x.of(change[0], change[1]), change[2]);
+            due.is("none", x.undo(), -5);
+        }
+    }
+
+    private static void toTheSameKeepsRedo() {
+        OpenOrTake x = Due.party(0, 0);
+        x.mend(0, 0, 1);
+        x.mend(1, 0, 2);
+        x.undo();
+        due.is("what it was undone to", x.mend(1, 0, 0), 0);
+        due.is("another one's own", x.mend(0, 0, 1), 1);
+        due.is("one may be undone", x.count(4), 1);
+        due.is("no other came behind", x.redo(), 0);
+        due.is("as it became", x.of(1, 0), 2);
+        x.undo();
+        x.undo();
+        due.is("none is left to undo", x.mend(0, 3, 3), 3);
+        due.is("done again", x.redo(), 1);
+        due.is("as it became", x.of(0, 0), 1);
+        x.mend(0, 0, 9);
+        due.is("another came behind", x.redo(), -5);
+    }
+
+    private static void toTheSameForgetsNone() {
+        OpenOrTake x = Due.party(0, 0);
+        for (int i = 1; i <= 40; i++) {
+            x.mend(0, 0, i);
+        }
+        x.mend(0, 0, 40);
+        x.mend(0, 4, 0);
+        due.is("changes", x.count(4), 40);
+        for (int i = 39; i >= 0; i--) {
+            due.is("undone", x.undo(), i);
+            due.is("worth", x.of(0, 0), i);
+        }
+        due.is("none", x.undo(), -5);
+    }
+
+    /** Mendings, undone and done again, beside lists that tell the same in other words. */
+    private static void byChance() {
+        Random random = new Random(5);
+        for (int run = 0; run < 60; run++) {
+            OpenOrTake x = Due.party(0, 1, 2);
+            int few = 1 + random.nextInt(4);
+            List<int[]> done = new ArrayList<>();
+            Deque<int[]> undone = new ArrayDeque<>();
+            for (int call = 0; call < 200; call++) {
+                int sort = random.nextInt(run % 3 == 0 ? 20 : 5);
+                if (sort == 0) {
+                    undoBeside(x, done, undone);
+                } else if (sort == 1) {
+                    redoBeside(x, done, undone);
+                } else {
+                    mendBeside(x, random, few, done, undone);
+                }
+                due.is("may be undone", x.count(4), done.size());
+            }
+        }
+    }
+
+    private static void mendBeside(OpenOrTake x, Random random, int few, List<int[]> done, Deque<int[]> undone) {
+        int what = random.nextInt(5);
+        int number = what == 0 ? 10 * random.nextInt(3) + random.nextInt(3)
+                : what == 1 ? 12 : what == 2 ? random.nextInt(3) : 0;
+        int v = what == 3 ? 1 + random.nextInt(3) : random.nextInt(what == 4 ? 2 : what == 2 ? 3 : 1 + few);
+        int was = x.of(number, what);
+        due.is("what it was", x.mend(number, what, v), was);
+        due.is("what it is", x.of(number, what), v);
+        if (v != was) {
+            done.add(new int[] {number, what, was, v});
+            undone.clear();
+            if (done.size() > 40) {
+                done.remove(0);
+            }
+        }
+    }
+
+    private static void undoBeside(OpenOrTake x, List<int[]> done, Deque<int[]> undone) {
+        due.is("undo", x.undo(), done.isEmpty() ? -5 : done.size() - 1);
+        if (!done.isEmpty()) {
+            int[] change = done.remove(done.size() - 1);
+            undone.push(change);
+            due.is("as it was", x.of(change[0], change[1]), change[2]);
+        }
+    }
+
+    private static void redoBeside(OpenOrTake x, List<int[]> done, Deque<int[]> undone) {
+        due.is("redo", x.redo(), undone.isEmpty() ? -5 : undone.size() - 1);
+        if (!undone.isEmpty()) {
+            int[] change = undone.pop();
+            done.add(change);
+            due.is("as it became", x.of(change[0], change[1]), change[3]);
+        }
     }
 }
