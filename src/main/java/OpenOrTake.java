@@ -511,7 +511,7 @@ public final class OpenOrTake {
         int done = 0;
         int all = 0;
 
-        /** What becomes as it was already is no change: nothing to undo, and what was undone may still be done again. */
+        /** What becomes as it was already is no change, so it is not kept, and ends nothing that may be done again. */
         void note(int ofNumber, int ofWhat, int was, int becomes) {
             if (was == becomes) {
                 return;
