@@ -273,7 +273,7 @@ final class ChangesEdges extends Edges {
 
     private void forty() {
         of(26, "40 at most are kept.");
-        for (int times : new int[] {39, 40, 41, 80, 99}) {
+        for (int times : new int[] {39, 40, 41, 60, 80}) {
             int kept = Math.min(times, 40);
             is("kept of " + times, mended(times).count(4), kept);
             is("undone one of " + times, mended(times).undo(), kept - 1);
@@ -285,5 +285,34 @@ final class ChangesEdges extends Edges {
             }
             is("as it was", x.of(0, 0), times);
         }
+        unlikeOnes();
+    }
+
+    /** WAYS, MOST, WORTHS and LIKES, of which ten are kept no more. */
+    private void unlikeOnes() {
+        OpenOrTake x = people(5);
+        int[][] changes = new int[50][];
+        for (int i = 0; i < 50; i++) {
+            int pn = 10 * (i % 5) + (i + 1 + i / 5) % 5;
+            changes[i] = i % 10 == 3 ? new int[] {i / 10, 2, 2}
+                    : i % 10 == 4 ? new int[] {0, 3, 1 + i / 10 % 2}
+                    : i % 2 == 0 || pn / 10 == pn % 10 ? new int[] {pn, 0, i + 1} : new int[] {pn, 1, i % 5};
+        }
+        int[] before = new int[50];
+        for (int i = 0; i < 50; i++) {
+            before[i] = x.mend(changes[i][0], changes[i][1], changes[i][2]);
+            is("a change, " + i, before[i] != changes[i][2] ? 1 : 0, 1);
+        }
+        is("changes", x.count(4), 40);
+        for (int i = 49; i >= 10; i--) {
+            is("undone", x.undo(), i - 10);
+            is("as it was ahead of " + i, x.of(changes[i][0], changes[i][1]), before[i]);
+        }
+        is("no more", x.undo(), STATE);
+        for (int i = 10; i < 50; i++) {
+            is("done again", x.redo(), 49 - i);
+            is("as it was behind " + i, x.of(changes[i][0], changes[i][1]), changes[i][2]);
+        }
+        is("no more", x.redo(), STATE);
     }
 }

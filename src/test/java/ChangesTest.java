@@ -232,12 +232,12 @@ public final class ChangesTest {
     /** Mendings, undone and done again, beside lists that tell the same in other words. */
     private static void byChance() {
         Random random = new Random(5);
-        for (int run = 0; run < 60; run++) {
+        for (int run = 0; run < 120; run++) {
             OpenOrTake x = Due.party(0, 1, 2);
             int few = 1 + random.nextInt(4);
             List<int[]> done = new ArrayList<>();
             Deque<int[]> undone = new ArrayDeque<>();
-            for (int call = 0; call < 200; call++) {
+            for (int time = 0; time < 120; time++) {
                 int sort = random.nextInt(run % 3 == 0 ? 20 : 5);
                 if (sort == 0) {
                     undoBeside(x, done, undone);

@@ -307,9 +307,24 @@ final class DeedEdges extends Edges {
         is("not a SAFE one", ofSafeOne(1), 1);
         is("not what was taken from it just now", ofJustTaken(1), 1);
         is("from who has it, not from whose number it has", ofHolder(), 0);
+        is("the first person too", ofFirst(3), 2);
+        is("the first person too", ofFirst(8), 1);
         of(12, "(of like ones the least PARCEL); else it OPENS.");
         is("0 and 1 alike", chosen(1, 4, 4, 8, 9, 1, 1, 1), 0);
         is("none is more than GUESS", chosen(1, 0, 0, 7, 7, 7, 7, 7), 2);
+    }
+
+    /** Person 0 likes 1 by 7 and 2 by so much, and takes what one of them has opened. */
+    private int ofFirst(int like) {
+        OpenOrTake x = opened(5, 3);
+        x.mend(0, 2, 1);
+        x.mend(1, 0, 9);
+        x.mend(2, 0, 9);
+        x.mend(1, 1, 7);
+        x.mend(2, 1, like);
+        x.take(0);
+        x.goOn();
+        return x.of(0, 11);
     }
 
     /** Person 1 has 0, person 0 has 1: person 2 likes 1 least. */

@@ -85,6 +85,8 @@ final class LawEdges extends Edges {
         String ahead = "0?9;".repeat(29);
         is("the last of 120 bytes counts", takes(ahead + "11-o"), 1);
         is("and so it does here", takes(ahead + "10*o"), 0);
+        is("each of 120 bytes counts", takes("-o" + "+1".repeat(59)), 1);
+        is("and so it does here", takes("!o" + "-1".repeat(59)), 1);
         is("one byte", takes("w"), 1);
         of(8, "LINES, one or more, parted by ;");
         is("one line", takes("o=0"), 1);
@@ -187,6 +189,9 @@ final class LawEdges extends Edges {
         faultOf("W", 0);
         value("!7", 0);
         value("!0+1", 2);
+        value("1+!0", 2);
+        value("9-3*!0", 6);
+        value("!(1-!0)", 1);
         faultOf("!", 1);
         value("-7", -7);
         value("--7", 7);

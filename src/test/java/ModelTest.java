@@ -15,7 +15,7 @@ public final class ModelTest {
         for (int i = 0; i < 3000; i++) {
             broken();
         }
-        for (int party = 0; party < 400; party++) {
+        for (int party = 0; party < 1200; party++) {
             new ModelTest().party(party % 8);
         }
         due.end();
@@ -89,17 +89,21 @@ public final class ModelTest {
             model.n++;
         }
         int greatest = upTo(1) == 0 ? 99 : 1 + upTo(8);
-        for (int i = 0; i < 20 + upTo(60) && n > 0; i++) {
+        for (int i = 20 + upTo(40); i > 0 && n > 0; i--) {
             mend(greatest);
         }
-        for (int i = 0; i < 4; i++) {
+        int thinks = upTo(1);
+        for (int i = 0; i < 2; i++) {
             swap();
             law();
             laws();
-            inThought();
-            inDeed();
-            undo();
+            if (i == thinks) {
+                inThought();
+            } else {
+                inDeed();
+            }
         }
+        undo();
     }
 
     private void mend(int greatest) {
@@ -129,7 +133,8 @@ public final class ModelTest {
 
     private void law() {
         String text = upTo(2) == 0 ? "o?" + upTo(60) + ";" + text() : text();
-        int fault = text.length() > 120 ? 0 : Model.fault(text);
+        // Short ones, for an object is asked 512 times at most.
+        int fault = text.length() > 50 ? 0 : Model.fault(text);
         if (fault < 0) {
             model.law = text;
             due.is("law " + text, Due.law(x, text), 1);

@@ -324,6 +324,13 @@ final class PeopleEdges extends Edges {
         is("like of 2 for 1", x.of(21, 1), 5);
         is("best of 1", x.best(1), 2);
 
+        OpenOrTake five = people(5);
+        for (int pn = -1; pn <= 110; pn++) {
+            boolean pair = pn >= 0 && pn / 10 < 5 && pn % 10 < 5;
+            is("worth of " + pn, five.mend(pn, 0, 3), pair ? 0 : BAD);
+            is("like of " + pn, five.mend(pn, 1, 3), pair && pn / 10 != pn % 10 ? 5 : BAD);
+        }
+
         of(4, "WORTH (what 0), LIKE (1; unlike ones) of pn, WAY (2) of a PERSON, MOST (3), AGAIN (4;");
         for (int pn : new int[] {0, 11, 22}) {
             is("one's own parcel", x.mend(pn, 0, 1), 0);
@@ -420,6 +427,13 @@ final class PeopleEdges extends Edges {
         is("place 1", x.of(1, 10), 0);
         is("place 0", x.of(0, 10), 6);
         is("place 2", x.of(2, 10), 2);
+        for (int ij = 0; ij < 70; ij++) {
+            boolean pair = ij / 10 != ij % 10 && ij % 10 < 7;
+            x = people(7);
+            is("swap(" + ij + ")", x.swap(ij), pair ? ij % 10 : BAD);
+            is("who is at i", x.of(ij / 10, 10), pair ? ij % 10 : ij / 10);
+            is("who is at j", x.of(ij % 10, 10), ij % 10 >= 7 ? BAD : ij / 10);
+        }
         for (int ij : new int[] {0, 11, 66}) {
             refused("swap(" + ij + ")", BAD, () -> people(7), y -> y.swap(ij));
         }

@@ -1,63 +1,45 @@
 import java.util.Random;
 
 /**
- * For all arguments in all states nothing is thrown, what is refused changes nothing that can be asked for,
- * and a second object that hears the same calls answers the same.
+ * For all arguments in all states nothing is thrown, a second object that hears the same calls answers the same, and
+ * what is refused changes nothing: an object that did not hear it tells the same behind it.
  */
 public final class RefusalTest {
     private static final Due due = new Due("RefusalTest");
     private static final int[] EDGES = {-1, -2, 7, 8, 9, 10, 11, 60, 61, 99, 100, 120, 255, 256,
         Integer.MAX_VALUE, Integer.MIN_VALUE, Integer.MAX_VALUE - 3};
-    private static final int CALLS = 512;
+    private static final int MOST_CALLS = 512;
+    /** Calls ahead of what Told asks then. */
+    private static final int FEW_CALLS = 120;
 
     private final Random random;
-    private final int people;
+    private final int seed;
+    private final int[] call;
+    private final int[][] args;
 
-    private RefusalTest(int seed) {
+    private RefusalTest(int seed, int calls) {
+        this.seed = seed;
         random = new Random(seed);
-        people = seed % 8;
+        call = new int[calls];
+        args = new int[calls][5];
+        int people = seed % 8;
+        for (int i = 0; i < calls; i++) {
+            call[i] = i < people ? 0 : random.nextInt(37);
+            for (int k = 0; k < 5; k++) {
+                args[i][k] = i < people ? i % 3 : arg(call[i]);
+            }
+        }
     }
 
     public static void main(String[] args) {
         for (int seed = 0; seed < 300; seed++) {
-            new RefusalTest(seed).run(seed);
+            new RefusalTest(seed, MOST_CALLS).twins();
+            new RefusalTest(seed + 1000, FEW_CALLS).refusals();
         }
         due.end();
     }
 
-    private void run(int seed) {
-        OpenOrTake x = new OpenOrTake();
-        OpenOrTake twin = new OpenOrTake();
-        for (int i = 0; i < people; i++) {
-            x.person(i % 3);
-            twin.person(i % 3);
-        }
-        for (int i = 0; i < CALLS - people; i++) {
-            int call = random.nextInt(37);
-            int[] a = {arg(call), arg(call), arg(call), arg(call), arg(call)};
-            String said = "seed " + seed + " call " + i + " of " + call + " " + java.util.Arrays.toString(a);
-            long before = i % 8 == 0 ? told(x) : 0;
-            try {
-                long answer = call(x, call, a);
-                due.is(said + " of the twin", call(twin, call, a), answer);
-                if (i % 8 == 0 && isRefusal(call, answer)) {
-                    due.is(said + " changed something", told(x), before);
-                }
-            } catch (RuntimeException thrown) {
-                due.is(said + " threw " + thrown, 1, 0);
-                return;
-            }
-        }
-        due.is("told alike", told(x), told(twin));
-    }
-
-    /** law() empties the tape and act() the trace whatever they answer; shift() to or fro may answer any n. */
-    private static boolean isRefusal(int call, long answer) {
-        boolean code = answer < 0 && answer >= -14;
-        return call != 6 && call != 27 && call != 32 && code;
-    }
-
-    private int arg(int call) {
+    private int arg(int ofCall) {
         int sort = random.nextInt(10);
         if (sort == 0) {
             return EDGES[random.nextInt(EDGES.length)];
@@ -65,37 +47,56 @@ public final class RefusalTest {
         if (sort < 3) {
             return random.nextInt(70);
         }
-        return call == 5 ? "wxtlor123;?|&<=>+-*/%!()".charAt(random.nextInt(24)) : random.nextInt(6);
+        return ofCall == 5 ? "wxtlor123;?|&<=>+-*/%!()".charAt(random.nextInt(24)) : random.nextInt(6);
     }
 
-    private static long told(OpenOrTake x) {
-        long sum = 17;
-        for (int what = 0; what <= 6; what++) {
-            sum = 31 * sum + x.count(what);
-        }
-        for (int pn = 0; pn < 70; pn++) {
-            sum = 31 * (31 * sum + x.of(pn, 0)) + x.of(pn, 1);
-        }
-        for (int i = 0; i < 7; i++) {
-            sum = 31 * (31 * sum + x.of(i, 2)) + x.of(i, 10);
-            sum = 31 * (31 * (31 * sum + x.of(i, 11)) + x.of(i, 12)) + x.of(i, 13);
-        }
-        sum = 31 * (31 * sum + x.of(0, 3)) + x.of(0, 4);
-        sum = 31 * (31 * (31 * (31 * sum + x.led(0)) + x.led(1)) + x.led(2)) + x.turn();
-        for (int i = 0; i < 24; i++) {
-            sum = 31 * sum + x.trace(i);
-        }
-        for (int shelf = 0; shelf < 6; shelf++) {
-            sum = 31 * sum + x.taken(shelf, 0);
-            for (int i = 0; i <= 60; i++) {
-                sum = 31 * sum + x.element(shelf, i);
+    private String said(int i) {
+        return "seed " + seed + " call " + i + " of " + call[i] + " " + java.util.Arrays.toString(args[i]);
+    }
+
+    private void twins() {
+        OpenOrTake x = new OpenOrTake();
+        OpenOrTake twin = new OpenOrTake();
+        for (int i = 0; i < call.length; i++) {
+            try {
+                due.is(said(i), answer(x, i), answer(twin, i));
+            } catch (RuntimeException thrown) {
+                due.is(said(i) + " threw " + thrown, 1, 0);
+                return;
             }
         }
-        return 31 * (31 * sum + x.evening(0, 1)) + x.evening(0, 2);
     }
 
-    private static long call(OpenOrTake x, int call, int[] a) {
-        switch (call) {
+    private void refusals() {
+        OpenOrTake x = new OpenOrTake();
+        for (int i = 0; i < call.length; i++) {
+            boolean refused = isRefusal(call[i], answer(x, i));
+            if (refused && random.nextInt(8) == 0) {
+                for (int part = 0; part < Told.PARTS; part++) {
+                    boolean alike = Told.part(behind(i), part).equals(Told.part(behind(i - 1), part));
+                    due.is(said(i) + " changed part " + part, alike ? 0 : 1, 0);
+                }
+            }
+        }
+    }
+
+    /** An object that has heard all calls till this one. */
+    private OpenOrTake behind(int last) {
+        OpenOrTake x = new OpenOrTake();
+        for (int i = 0; i <= last; i++) {
+            answer(x, i);
+        }
+        return x;
+    }
+
+    /** law() empties the tape and act() the trace whatever they answer. */
+    private static boolean isRefusal(int call, long answer) {
+        return answer < 0 && answer >= -14 && call != 6 && call != 27;
+    }
+
+    private long answer(OpenOrTake x, int i) {
+        int[] a = args[i];
+        switch (call[i]) {
             case 0: return x.person(a[0]);
             case 1: return x.people(a[0], a[1], a[2]);
             case 2: return x.mend(a[0] < 7 && a[0] >= 0 ? 10 * a[0] + a[3] : a[0], a[1], a[2]);

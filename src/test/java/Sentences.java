@@ -11,6 +11,8 @@ import java.util.regex.Pattern;
  */
 final class Sentences {
     private static final int PROMISES = 37;
+    /** Of one test; what is wrong more often is counted alone. */
+    private static final int MOST_TOLD = 9;
     /** What tells what follows, and promises nothing by itself. */
     private static final String[] HEADS = {
         "## Terms", "======== [1-4]", "======== SO THAT NOTHING IS READ TWO WAYS\\.",
@@ -23,6 +25,7 @@ final class Sentences {
     private final int[] tests = new int[PROMISES + 1];
     private String now = "";
     private int askedNow = 1;
+    private int wrongNow = 0;
     private int asked = 0;
     private int wrong = 0;
 
@@ -60,6 +63,7 @@ final class Sentences {
         endOfTest();
         now = "promise " + promise + ", \"" + words + "\"";
         askedNow = 0;
+        wrongNow = 0;
         tests[promise]++;
         if (!(nameIn(promise, words) | nameIn(0, words))) {
             fault("the document does not say so");
@@ -86,7 +90,10 @@ final class Sentences {
 
     private void fault(String what) {
         wrong++;
-        System.out.println(now + ": " + what);
+        wrongNow++;
+        if (wrongNow <= MOST_TOLD) {
+            System.out.println(now + ": " + what);
+        }
     }
 
     private void endOfTest() {
@@ -100,6 +107,7 @@ final class Sentences {
         int count = 0;
         for (int promise = 0; promise <= PROMISES; promise++) {
             now = promise == 0 ? "the Terms" : "promise " + promise;
+            wrongNow = 0;
             count += tests[promise];
             if (promise > 0 && tests[promise] == 0) {
                 fault("there is no test");

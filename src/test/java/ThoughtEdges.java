@@ -1,3 +1,4 @@
+import java.util.List;
 import java.util.function.Supplier;
 import java.util.function.ToLongFunction;
 
@@ -179,6 +180,7 @@ final class ThoughtEdges extends Edges {
         x.swap(1);
         is("by the lot 1 opens 0", x.exact(1), 0);
         is("and 0 opens 1", x.exact(-1), 2);
+        besideTheModel();
         of(17, "(of like ones OPENING, then the least PARCEL): the PARCEL of one; the TURNS.");
         is("as much by taking: opens", exactly(2, new int[][] {{1, 9}, {5, 5}}).exact(-1), 2);
         x = exactly(1, new int[][] {{0, 0, 0}, {0, 0, 0}, {8, 8, 0}});
@@ -186,6 +188,27 @@ final class ThoughtEdges extends Edges {
         is("who was robbed opens 2", x.exact(0), 2);
         is("turns", x.exact(-1), 4);
         is("1 is worth one more", exactly(1, new int[][] {{0, 0, 0}, {0, 0, 0}, {8, 9, 0}}).exact(2), 1);
+    }
+
+    /** Many worths, few unlike ones, so that like ones and longer evenings come too. */
+    private void besideTheModel() {
+        for (int i = 0; i < 300; i++) {
+            Model model = new Model();
+            model.n = 3;
+            model.most = 1 + i % 2;
+            model.lot = List.of(0, 1, 2);
+            int[][] worths = new int[3][3];
+            for (int pn = 0; pn < 9; pn++) {
+                worths[pn / 3][pn % 3] = (i * (31 + 7 * pn) + i * i % (pn + 5)) % (3 + i % 7);
+                model.worth[pn / 3][pn % 3] = worths[pn / 3][pn % 3];
+            }
+            OpenOrTake x = exactly(model.most, worths);
+            Model.Party end = model.exact(model.begun(model.lot));
+            is("turns, " + i, x.exact(-1), end.turns);
+            for (int who = 0; who < 3; who++) {
+                is("of " + who + ", " + i, x.exact(who), end.has.get(who));
+            }
+        }
     }
 
     private void best() {
@@ -505,6 +528,8 @@ final class ThoughtEdges extends Edges {
         x.swap(2);
         x.open();
         is("whatever the lot is, and who has opened", x.lots(0), 1);
+        is("another thought", x.evening(0, 1), 3);
+        is("and once more", x.lots(0), 1);
         x = people(3);
         x.mend(10, 0, 9);
         // 1 opens or takes 0. So 0 has 1 by 0 1 2, by 1 0 2 and by 2 0 1, by the others 2.
