@@ -98,25 +98,27 @@ public final class RulesTest {
     }
 
     private static void words(String source) {
-        String[] refused = {"->", "::", "\\btry\\b", "\\bcatch\\b", "\\bfinally\\b", "\\bthrow\\b", "\\bthrows\\b",
-            "\\bsynchronized\\b", "\\bassert\\b", "\\bvar\\b", "\\bfloat\\b", "\\bdouble\\b", "\\bnative\\b",
-            "\\bstatic\\s*\\{", "\\bpackage\\b", "\\bprotected\\b", "\\bString\\b", "\\bObject\\b", "\\byield\\b",
-            "\\bRandom\\b", "\\bThread\\b", "while\\s*\\(true", "for\\s*\\(;;"};
+        String[] refused = {"(?m)^(?!\\s*(case|default)\\b).*->", "::", "\\bfinally\\b", "try\\s*\\(",
+            "\\bsynchronized\\b", "\\bassert\\b", "\\bvar\\b", "\\bnative\\b", "\\bstatic\\s*\\{", "\\bpackage\\b",
+            "\\bprotected\\b", "\\bObject\\b", "\\bRandom\\b", "\\bThread\\b", "while\\s*\\(true", "for\\s*\\(;;",
+            "\\bextends \\w*Exception\\b", "\\bcatch\\s*\\([^)]*\\b(NullPointer|ArrayStore|ClassCast)Exception",
+            "\\bcatch\\s*\\([^)]*\\b(ArrayIndexOutOfBounds|NegativeArraySize)Exception",
+            "\\bcatch\\s*\\([^)]*\\b(Throwable|Error|Exception)\\b"};
         for (String word : refused) {
             due.is("found " + word, Pattern.compile(word).matcher(source).find() ? 1 : 0, 0);
         }
+        List<String> allowed = List.of("java.util.Arrays", "java.util.ArrayList", "java.util.List",
+                "java.util.Iterator", "java.util.NoSuchElementException");
         Matcher imported = Pattern.compile("import ([^;]+);").matcher(source);
         while (imported.find()) {
-            due.is("import " + imported.group(1), imported.group(1).equals("java.util.Arrays") ? 1 : 0, 1);
+            due.is("import " + imported.group(1), allowed.contains(imported.group(1)) ? 1 : 0, 1);
         }
     }
 
     private static void calls(String source) {
-        List<String> allowed = List.of("System.arraycopy", "Arrays.fill", "Arrays.copyOf", "Arrays.copyOfRange",
-                "Math.max", "Math.min", "Math.abs", "Math.floorMod", "Math.floorDiv", "Integer.bitCount",
-                "Integer.compare", "Integer.MAX_VALUE", "Integer.MIN_VALUE", "Long.MIN_VALUE", "Long.MAX_VALUE");
-        Matcher call = Pattern.compile("\\b(System|Arrays|Math|Integer|Long|Character|String|List|Objects)\\.\\w+")
+        Matcher call = Pattern.compile("\\b(System|Arrays|Objects|Character|Collections)\\.\\w+|\\.\\w+Exact\\b")
                 .matcher(source);
+        List<String> allowed = List.of("System.arraycopy", "Arrays.fill", "Arrays.copyOf", "Arrays.copyOfRange");
         while (call.find()) {
             boolean imports = source.startsWith("java.util.", Math.max(0, call.start() - 10));
             due.is("used " + call.group(), imports || allowed.contains(call.group()) ? 1 : 0, 1);

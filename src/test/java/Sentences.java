@@ -23,6 +23,8 @@ final class Sentences {
     private final String[] text = new String[PROMISES + 1];
     private final boolean[][] named = new boolean[PROMISES + 1][];
     private final int[] tests = new int[PROMISES + 1];
+    /** Without the document the words can't be held against it, the answers can. */
+    private final boolean isThere;
     private String now = "";
     private int askedNow = 1;
     private int wrongNow = 0;
@@ -30,7 +32,8 @@ final class Sentences {
     private int wrong = 0;
 
     Sentences(Path document) throws IOException {
-        String all = Files.readString(document).replaceAll("(?m)^```.*$", "").replaceAll("\\s+", " ");
+        isThere = Files.isReadable(document);
+        String all = (isThere ? Files.readString(document) : "").replaceAll("(?m)^```.*$", "").replaceAll("\\s+", " ");
         String[] parts = all.split("## Promise \\d+: [^`]*|## Not promised");
         for (int promise = 0; promise <= PROMISES; promise++) {
             text[promise] = promise < parts.length ? parts[promise] : "";
@@ -65,7 +68,7 @@ final class Sentences {
         askedNow = 0;
         wrongNow = 0;
         tests[promise]++;
-        if (!(nameIn(promise, words) | nameIn(0, words))) {
+        if (isThere && !(nameIn(promise, words) | nameIn(0, words))) {
             fault("the document does not say so");
         }
     }
@@ -116,6 +119,9 @@ final class Sentences {
             if (!left.isBlank()) {
                 fault("no test names: " + left);
             }
+        }
+        if (!isThere) {
+            System.out.println("EdgesTest: no document was found, so the tests' words were held against nothing");
         }
         System.out.println("EdgesTest: " + count + " tests of sentences, " + asked + " answers, " + wrong
                 + " not as due");

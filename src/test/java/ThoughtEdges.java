@@ -75,7 +75,8 @@ final class ThoughtEdges extends Edges {
     }
 
     private void inThought() {
-        of(16, "In thought, an EVENING from its beginning by THE LOT: with which PARCEL one goes home; how many TURNS;");
+        of(16, "In thought, an EVENING from its beginning by THE LOT: with which PARCEL one goes home; how many"
+                + " TURNS;");
         OpenOrTake x = four();
         x.open();
         x.open();
