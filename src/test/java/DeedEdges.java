@@ -96,6 +96,10 @@ final class DeedEdges extends Edges {
         refused("it has ended", STATE, () -> opened(3, 3), y -> y.take(0));
         refused("it has ended, the last parcel", STATE, () -> opened(3, 3), y -> y.take(2));
         refused("it has ended but for AGAIN", STATE, () -> endedWithAgain(3), y -> y.take(1));
+        x = robbed(2);
+        x.open();
+        x.mend(0, 3, 1);
+        is("it has ended: ahead of NOT for a SAFE one", x.take(0), STATE);
 
         of(11, "NOT: it may not.");
         refused("nothing is open", NOT, () -> people(3), y -> y.take(0));
@@ -523,6 +527,8 @@ final class DeedEdges extends Edges {
         is("four turns", x.led(2), 4);
         x.anew();
         is("so far, behind anew too", x.led(2), 4);
+        is("who had the latest", x.led(0), 0);
+        is("what it got", x.led(1), 2);
         x.open();
         is("the next", x.led(2), 5);
         is("by 2", x.led(0), 2);

@@ -322,6 +322,9 @@ final class LawEdges extends Edges {
         value("4>3", 1);
         value("3>3", 0);
         value("(" + spelled(MIN) + ")<1", 1);
+        value("(" + spelled(MIN) + ")>1", 0);
+        value("(" + spelled(MAX) + ")>-1", 1);
+        value("(" + spelled(MAX) + ")<-1", 0);
         value("!0", 1);
         value("!7", 0);
         value("!-1", 0);
