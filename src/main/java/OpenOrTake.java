@@ -13,6 +13,7 @@ public final class OpenOrTake {
     private static final int TAPE_SIZE = 120;
     private static final int FAULT_BASE = -100;
     private static final int WORTH = 0, LIKE = 1, WAY = 2, MOST = 3, AGAIN = 4;
+    private static final int MOST_LIKE = 9;
 
     private final Party party = new Party();
     private final Changes changes = new Changes();
@@ -445,7 +446,7 @@ public final class OpenOrTake {
                 case WORTH:
                     return v >= 0 && v <= 99;
                 case LIKE:
-                    return v >= 0 && v <= 9;
+                    return v >= 0 && v <= MOST_LIKE;
                 case WAY:
                     return v >= 0 && v <= 2;
                 case MOST:
@@ -1032,7 +1033,7 @@ public final class OpenOrTake {
         /** WAY 1, likewise. */
         private int fromWhomItLikesLeast(int who, Party party) {
             int guess = guess(who, party);
-            int least = Integer.MAX_VALUE;
+            int least = MOST_LIKE + 1;
             int wished = NONE;
             for (int parcel = 0; parcel < opened; parcel++) {
                 int like = party.likeFor(who, holder[parcel]);

@@ -123,6 +123,12 @@ public final class RulesTest {
             boolean imports = source.startsWith("java.util.", Math.max(0, call.start() - 10));
             due.is("used " + call.group(), imports || allowed.contains(call.group()) ? 1 : 0, 1);
         }
+        // Rule 4 has functions of these; the one constant stands in the document.
+        Matcher number = Pattern.compile("\\b(Integer|Long|Math)\\.(\\w+)(\\s*\\()?").matcher(source);
+        while (number.find()) {
+            boolean isFunction = number.group(3) != null && !number.group(2).endsWith("Exact");
+            due.is("used " + number.group(), isFunction || number.group().equals("Long.MIN_VALUE") ? 1 : 0, 1);
+        }
     }
 
     private static void methods(String source) {

@@ -5,11 +5,13 @@ import java.util.Deque;
 import java.util.List;
 import java.util.Random;
 
-/** Promises 2 to 6, 9 to 16 and 24 to 27 in any order: calls by chance, each answer held against the model's. */
+/** Promises 1 to 37 in any order: all calls by chance, each answer held against the model's and the host's. */
 public final class WalkTest {
     private static final Due due = new Due("WalkTest");
     private static final int BAD = -1, NOT = -2, FULL = -3, STATE = -5;
     private static final int CALLS = 500;
+    private static final String[] TEXTS = {"w", "w*2-x+l-t*9", "o?r*9;w-t", "!o&t<2|x>w", "o?w%7;-l*(x-w)/3", "l-l/0?1;w",
+        "w+", "((((((w))))))", "!-!-!-w", "12345", "w?x?t", "", "o?x=l;t", "9999*9999*w>0?r;o"};
 
     /** What an image keeps. */
     private record Deed(List<Integer> lot, Model.Party party, boolean againWas, int who, int got, int turns) {
@@ -26,6 +28,10 @@ public final class WalkTest {
     private Deed image = null;
     private final List<int[]> done = new ArrayList<>();
     private final Deque<int[]> undone = new ArrayDeque<>();
+    private final Host host = new Host();
+    private String tape = "";
+    /** What is fed byte by byte, if nothing else comes between. */
+    private String text = "";
 
     private WalkTest(int seed) {
         random = new Random(seed);
@@ -35,8 +41,13 @@ public final class WalkTest {
         for (int seed = 0; seed < 400; seed++) {
             WalkTest walk = new WalkTest(seed);
             int haste = 1 + seed % 5;
-            for (int call = 0; call < CALLS; call++) {
-                walk.step(haste);
+            int called = walk.begin(seed % 9, 10 * (seed % 7));
+            for (int call = called; call < CALLS; call++) {
+                switch (walk.upTo(seed % 3)) {
+                    case 0 -> walk.step(haste);
+                    case 1 -> walk.shelfStep();
+                    default -> walk.thoughtStep();
+                }
             }
         }
         due.end();
@@ -44,6 +55,17 @@ public final class WalkTest {
 
     private int upTo(int bound) {
         return random.nextInt(bound + 1);
+    }
+
+    /** People who come and what they are like, so that there is something to think of: how many calls. */
+    private int begin(int comers, int mendings) {
+        for (int i = 0; i < comers; i++) {
+            person();
+        }
+        for (int i = 0; i < mendings; i++) {
+            mend();
+        }
+        return comers + mendings;
     }
 
     /** The hastier, the fewer people come and the more turns are had. */
@@ -102,8 +124,8 @@ public final class WalkTest {
         int p = number / 10;
         int k = number % 10;
         return switch (what) {
-            case 0 -> p < model.n && k < model.n ? model.worth[p][k] : BAD;
-            case 1 -> p < model.n && k < model.n && p != k ? model.like[p][k] : BAD;
+            case 0 -> number >= 0 && p < model.n && k < model.n ? model.worth[p][k] : BAD;
+            case 1 -> number >= 0 && p < model.n && k < model.n && p != k ? model.like[p][k] : BAD;
             case 2 -> number < model.n ? model.way[number] : BAD;
             case 3 -> number == 0 ? model.most : BAD;
             default -> number == 0 ? model.again : BAD;
@@ -120,9 +142,14 @@ public final class WalkTest {
         }
     }
 
+    /** Mostly one that is there. */
+    private int pair() {
+        return upTo(9) == 0 || model.n == 0 ? upTo(80) - 5 : 10 * upTo(model.n - 1) + upTo(model.n - 1);
+    }
+
     private void mend() {
-        int what = upTo(4);
-        int number = what < 2 ? upTo(69) : what == 2 ? upTo(7) : upTo(6) / 6;
+        int what = upTo(upTo(1) == 0 ? 1 : 4);
+        int number = what < 2 ? pair() : what == 2 ? upTo(7) : upTo(6) / 6;
         int[] least = {0, 0, 0, 1, 0};
         int[] most = {99, 9, 2, 3, 1};
         int v = upTo(9) == 0 ? 100 - 101 * upTo(1) : least[what] + upTo(most[what] - least[what]);
@@ -240,14 +267,14 @@ public final class WalkTest {
         for (int parcel = 0; parcel < model.n; parcel++) {
             safe += party.taken[parcel] >= model.most ? 1 : 0;
         }
-        int[] want = {model.n, model.n - party.opened, safe, 0, done.size(), 0, 0};
+        int[] want = {model.n, model.n - party.opened, safe, tape.length(), done.size(), host.bodies(), host.ran()};
         int what = upTo(6);
         due.is("count " + what, x.count(what), want[what]);
     }
 
     private void of() {
         int what = upTo(8);
-        int number = upTo(what < 2 ? 69 : 7);
+        int number = what < 2 ? pair() : upTo(7);
         if (what < 5) {
             due.is("of " + number + " " + what, x.of(number, what), value(number, what));
             return;
@@ -274,6 +301,177 @@ public final class WalkTest {
             case 1 -> due.is("evening 1", x.evening(0, 1), end.turns);
             case 2 -> due.is("evening 2", x.evening(0, 2), model.worths(end));
             default -> due.is("evening 3", x.evening(number, 3), is ? end.taken[number] : BAD);
+        }
+    }
+
+    // ---- shelves and acts
+
+    private int shelf() {
+        return upTo(19) == 0 ? 7 * upTo(1) - 1 : upTo(5);
+    }
+
+    private long bits() {
+        return random.nextLong() >> random.nextInt(64);
+    }
+
+    private void shelfStep() {
+        int a = upTo(9) - 1;
+        int b = upTo(upTo(1) == 0 ? 60 : 7) - 1;
+        int shelf = shelf();
+        switch (upTo(11)) {
+            case 0 -> due.is("body " + a, x.body(a), host.body(a));
+            case 1, 2 -> {
+                int act = upTo(5) - 1;
+                int v = (int) bits();
+                due.is("act " + a + " " + act + " " + v, x.act(a, act, v), host.act(a, act, v));
+            }
+            case 3 -> due.is("trace " + a, x.trace(a), host.trace(a));
+            case 4 -> due.is("keep", x.keep(shelf, a), host.keep(shelf, a));
+            case 5 -> {
+                int sort = upTo(2) == 0 ? upTo(6) - 1 : 0;
+                int n = upTo(9) == 0 ? 62 - 2 * upTo(32) : b;
+                due.is("row " + sort + " " + n, x.row(shelf, sort, n), host.row(shelf, sort, n));
+            }
+            case 6, 7 -> {
+                long v = upTo(1) == 0 ? upTo(3) : bits();
+                due.is("put " + b + " " + v, x.put(shelf, b, v), host.put(shelf, b, v));
+            }
+            case 8 -> due.is("element " + b, x.element(shelf, b), host.element(shelf, b));
+            case 9 -> due.is("taken " + a, x.taken(shelf, a), host.taken(shelf, a));
+            case 10 -> shift();
+            default -> people();
+        }
+    }
+
+    private void shift() {
+        int shelf = shelf();
+        int other = shelf();
+        int i = upTo(8) - 1;
+        int j = upTo(8) - 1;
+        int n = upTo(8) - 1;
+        String what = "shift " + shelf + " " + i + " " + other + " " + j + " " + n;
+        due.is(what, x.shift(shelf, i, other, j, n), host.shift(shelf, i, other, j, n));
+    }
+
+    private void people() {
+        int shelf = shelf();
+        int i = upTo(5) - 1;
+        int n = upTo(8);
+        int refusal = host.refusalOfBytes(shelf);
+        List<Integer> came = new ArrayList<>();
+        if (refusal == 0 && i >= 0) {
+            List<Integer> bytes = host.bytes(shelf);
+            while (came.size() < n && i + came.size() < bytes.size() && model.n + came.size() < 7
+                    && bytes.get(i + came.size()) >= 0 && bytes.get(i + came.size()) <= 2) {
+                came.add(bytes.get(i + came.size()));
+            }
+        }
+        int want = refusal == BAD || n < 1 || n > 7 ? BAD : refusal == -12 ? refusal : hasBegun() ? STATE : came.size();
+        due.is("people " + i + " " + n, x.people(shelf, i, n), want);
+        for (int k = 0; k < want; k++) {
+            model.way[model.n] = came.get(k);
+            model.lot.add(model.n);
+            model.n++;
+        }
+        if (want > 0) {
+            party = model.begun(model.lot);
+        }
+    }
+
+    // ---- the law, and in thought
+
+    private void thoughtStep() {
+        switch (upTo(14)) {
+            case 0, 1, 2, 3, 4 -> feed();
+            case 5 -> law();
+            case 6 -> exact();
+            case 7 -> best();
+            case 8 -> due.is("pairs", x.pairs(), model.pairs());
+            case 9 -> face();
+            case 10, 11 -> numbers();
+            case 12, 13 -> judge();
+            default -> lots();
+        }
+    }
+
+    private void feed() {
+        if (text.isEmpty()) {
+            text = TEXTS[random.nextInt(TEXTS.length)];
+        }
+        int letter = text.isEmpty() || upTo(19) == 0 ? upTo(257) - 1 : text.charAt(0);
+        text = text.isEmpty() ? "" : text.substring(1);
+        int want = letter < 0 || letter > 255 ? BAD : tape.length() == 120 ? FULL : tape.length() + 1;
+        due.is("feed " + letter, x.feed(letter), want);
+        if (want > 0) {
+            tape += (char) letter;
+        }
+        if (text.isEmpty()) {
+            law();
+        }
+    }
+
+    private void law() {
+        int fault = Model.fault(tape);
+        due.is("law " + tape, x.law(), fault < 0 ? 1 : -100 - fault);
+        if (fault < 0) {
+            model.law = tape;
+        }
+        tape = "";
+    }
+
+    private void exact() {
+        int person = upTo(5) - 2;
+        boolean is = person >= -1 && person < model.n;
+        if (!is || model.n > 3 || model.most > 2) {
+            due.is("exact " + person, x.exact(person), is ? STATE : BAD);
+            return;
+        }
+        Model.Party end = model.exact(model.begun(model.lot));
+        due.is("exact " + person, x.exact(person), person < 0 ? end.turns : end.has.get(person));
+    }
+
+    private void best() {
+        int person = upTo(8) - 2;
+        boolean is = person >= -1 && person < model.n;
+        if (!is || model.n <= 5) {
+            List<Integer> best = is ? model.best() : List.of();
+            due.is("best " + person, x.best(person), !is ? BAD : person < 0 ? model.worths(best) : best.get(person));
+        }
+    }
+
+    private void face() {
+        int parcel = upTo(8) - 1;
+        due.is("face " + parcel, x.face(parcel), parcel >= 0 && parcel < model.n ? model.face(parcel) : BAD);
+    }
+
+    private void numbers() {
+        int seed = (int) bits();
+        int n = upTo(9) == 0 ? 31 * upTo(1) : 1 + upTo(6);
+        int place = upTo(8) - 2;
+        if (n < 1 || n > 30 || place < -1 || place >= model.n) {
+            due.is("numbers " + n + " " + place, x.numbers(seed, n, place), BAD);
+            return;
+        }
+        int[] sums = model.numbers(seed, n);
+        java.util.Arrays.sort(sums);
+        int unlike = sums.length == 0 ? 0 : sums[sums.length - 1] - sums[0];
+        int want = place < 0 ? unlike : model.numbers(seed, n)[place];
+        due.is("numbers " + seed + " " + n + " " + place, x.numbers(seed, n, place), want);
+    }
+
+    private void judge() {
+        int shelf = shelf();
+        int refusal = host.refusalOfBytes(shelf);
+        int want = refusal != 0 ? refusal : model.judge(model.evening(model.lot), host.bytes(shelf));
+        due.is("judge", x.judge(shelf), want);
+    }
+
+    /** By few people alone: the model goes through all lots one by one. */
+    private void lots() {
+        int shelf = shelf();
+        int refusal = host.refusalOfBytes(shelf);
+        if (refusal != 0 || model.n <= 5) {
+            due.is("lots", x.lots(shelf), refusal != 0 ? refusal : model.lots(host.bytes(shelf)));
         }
     }
 }
