@@ -247,7 +247,7 @@ final class Host {
                 default -> new boolean[n];
             };
             return 1;
-        } catch (NegativeArraySizeException belowNull) {
+        } catch (NegativeArraySizeException below0) {
             return SIZE_BELOW_0;
         }
     }

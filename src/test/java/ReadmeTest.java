@@ -86,7 +86,8 @@ public final class ReadmeTest {
             for (Path file : files.toList()) {
                 String name = file.getFileName().toString().replace(".java", "");
                 if (name.endsWith("Test")) {
-                    due.is("README.md names " + name, readme.contains("`" + name) || readme.contains("/" + name) ? 1 : 0, 1);
+                    boolean isNamed = readme.contains("`" + name) || readme.contains("/" + name);
+                    due.is("README.md names " + name, isNamed ? 1 : 0, 1);
                 }
             }
         }

@@ -9,9 +9,11 @@ import java.util.Random;
 public final class WalkTest {
     private static final Due due = new Due("WalkTest");
     private static final int BAD = -1, NOT = -2, FULL = -3, STATE = -5;
-    private static final int CALLS = 500;
-    private static final String[] TEXTS = {"w", "w*2-x+l-t*9", "o?r*9;w-t", "!o&t<2|x>w", "o?w%7;-l*(x-w)/3", "l-l/0?1;w",
-        "w+", "((((((w))))))", "!-!-!-w", "12345", "w?x?t", "", "o?x=l;t", "9999*9999*w>0?r;o"};
+    /** An object is used for 512 calls; one step makes two at most. */
+    private static final int CALLS = 511;
+    private static final String[] TEXTS = {"w", "w*2-x+l-t*9", "o?r*9;w-t", "!o&t<2|x>w", "o?w%7;-l*(x-w)/3",
+        "l-l/0?1;w", "o?x=l;t", "9999*9999*w>0?r;o", "((((((w))))))", "!-!-!-w", "------!w", "w?(x)&(((((((t)))))))",
+        "w+", "12345", "w?x?t", ""};
 
     /** What an image keeps. */
     private record Deed(List<Integer> lot, Model.Party party, boolean againWas, int who, int got, int turns) {
@@ -26,6 +28,7 @@ public final class WalkTest {
     private int ledGot = -1;
     private int turns = 0;
     private Deed image = null;
+    private int heard = 0;
     private final List<int[]> done = new ArrayList<>();
     private final Deque<int[]> undone = new ArrayDeque<>();
     private final Host host = new Host();
@@ -41,8 +44,8 @@ public final class WalkTest {
         for (int seed = 0; seed < 400; seed++) {
             WalkTest walk = new WalkTest(seed);
             int haste = 1 + seed % 5;
-            int called = walk.begin(seed % 9, 10 * (seed % 7));
-            for (int call = called; call < CALLS; call++) {
+            walk.begin(seed % 9, 10 * (seed % 7));
+            for (int step = 0; step < CALLS && walk.heard < CALLS; step++) {
                 switch (walk.upTo(seed % 3)) {
                     case 0 -> walk.step(haste);
                     case 1 -> walk.shelfStep();
@@ -57,15 +60,20 @@ public final class WalkTest {
         return random.nextInt(bound + 1);
     }
 
-    /** People who come and what they are like, so that there is something to think of: how many calls. */
-    private int begin(int comers, int mendings) {
+    /** Each answer is one call's. */
+    private void is(String what, long got, long want) {
+        heard++;
+        due.is(what, got, want);
+    }
+
+    /** People who come and what they are like, so that there is something to think of. */
+    private void begin(int comers, int mendings) {
         for (int i = 0; i < comers; i++) {
             person();
         }
         for (int i = 0; i < mendings; i++) {
             mend();
         }
-        return comers + mendings;
     }
 
     /** The hastier, the fewer people come and the more turns are had. */
@@ -75,7 +83,7 @@ public final class WalkTest {
             case 0 -> person();
             case 1 -> swap();
             case 2, 3 -> mend();
-            case 4 -> due.is("turn", x.turn(), party.who < 0 ? NOT : party.who);
+            case 4 -> is("turn", x.turn(), party.who < 0 ? NOT : party.who);
             case 5 -> goOn();
             case 6 -> again();
             case 7 -> anew();
@@ -99,7 +107,7 @@ public final class WalkTest {
     private void person() {
         int way = upTo(4) - 1;
         int want = way < 0 || way > 2 ? BAD : hasBegun() ? STATE : model.n == 7 ? FULL : model.n;
-        due.is("person", x.person(way), want);
+        is("person", x.person(way), want);
         if (want >= 0) {
             model.way[model.n] = way;
             model.lot.add(model.n);
@@ -112,7 +120,7 @@ public final class WalkTest {
         int i = upTo(7);
         int j = upTo(7);
         boolean are = i != j && i < model.n && j < model.n;
-        due.is("swap", x.swap(10 * i + j), !are ? BAD : hasBegun() ? STATE : model.lot.get(j));
+        is("swap", x.swap(10 * i + j), !are ? BAD : hasBegun() ? STATE : model.lot.get(j));
         if (are && !hasBegun()) {
             Collections.swap(model.lot, i, j);
             party = model.begun(model.lot);
@@ -155,7 +163,7 @@ public final class WalkTest {
         int v = upTo(9) == 0 ? 100 - 101 * upTo(1) : least[what] + upTo(most[what] - least[what]);
         int was = value(number, what);
         boolean may = v >= least[what] && v <= most[what] && was != BAD;
-        due.is("mend " + number + " " + what + " " + v, x.mend(number, what, v), may ? was : BAD);
+        is("mend " + number + " " + what + " " + v, x.mend(number, what, v), may ? was : BAD);
         if (may && v != was) {
             become(number, what, v);
             done.add(new int[] {number, what, was, v});
@@ -167,7 +175,7 @@ public final class WalkTest {
     }
 
     private void undo() {
-        due.is("undo", x.undo(), done.isEmpty() ? STATE : done.size() - 1);
+        is("undo", x.undo(), done.isEmpty() ? STATE : done.size() - 1);
         if (!done.isEmpty()) {
             int[] change = done.remove(done.size() - 1);
             undone.push(change);
@@ -176,7 +184,7 @@ public final class WalkTest {
     }
 
     private void redo() {
-        due.is("redo", x.redo(), undone.isEmpty() ? STATE : undone.size() - 1);
+        is("redo", x.redo(), undone.isEmpty() ? STATE : undone.size() - 1);
         if (!undone.isEmpty()) {
             int[] change = undone.pop();
             done.add(change);
@@ -185,7 +193,7 @@ public final class WalkTest {
     }
 
     private void open() {
-        due.is("open", x.open(), party.who < 0 ? STATE : party.opened);
+        is("open", x.open(), party.who < 0 ? STATE : party.opened);
         if (party.who >= 0) {
             ledWho = party.who;
             ledGot = party.opened;
@@ -198,7 +206,7 @@ public final class WalkTest {
         int parcel = upTo(7);
         boolean may = party.who >= 0 && model.may(party, parcel);
         int want = parcel >= model.n ? BAD : party.who < 0 ? STATE : may ? party.has.indexOf(parcel) : NOT;
-        due.is("take", x.take(parcel), want);
+        is("take", x.take(parcel), want);
         if (want >= 0) {
             ledWho = party.who;
             ledGot = parcel;
@@ -209,7 +217,7 @@ public final class WalkTest {
 
     private void goOn() {
         int count = model.playOut(party, model.lot);
-        due.is("goOn", x.goOn(), count);
+        is("goOn", x.goOn(), count);
         if (count > 0) {
             turns += count;
             ledGot = model.n - 1;
@@ -229,11 +237,11 @@ public final class WalkTest {
                 ledGot = party.has.get(ledWho);
             }
         }
-        due.is("again", x.again(), may ? party.has.get(model.lot.get(0)) : STATE);
+        is("again", x.again(), may ? party.has.get(model.lot.get(0)) : STATE);
     }
 
     private void anew() {
-        due.is("anew", x.anew(), model.n);
+        is("anew", x.anew(), model.n);
         party = model.begun(model.lot);
         againWas = false;
     }
@@ -241,17 +249,17 @@ public final class WalkTest {
     private void led() {
         int what = upTo(4) - 1;
         int told = what == 0 ? ledWho : what == 1 ? ledGot : turns;
-        due.is("led", x.led(what), what < 0 || what > 2 ? BAD : what < 2 && turns == 0 ? STATE : told);
+        is("led", x.led(what), what < 0 || what > 2 ? BAD : what < 2 && turns == 0 ? STATE : told);
     }
 
     private void image() {
-        due.is("image", x.image(), model.n);
+        is("image", x.image(), model.n);
         image = new Deed(List.copyOf(model.lot), party.copy(), againWas, ledWho, ledGot, turns);
     }
 
     private void back() {
         boolean may = image != null && image.lot().size() == model.n;
-        due.is("back", x.back(), may ? model.n : STATE);
+        is("back", x.back(), may ? model.n : STATE);
         if (may) {
             model.lot = new ArrayList<>(image.lot());
             party = image.party().copy();
@@ -269,14 +277,14 @@ public final class WalkTest {
         }
         int[] want = {model.n, model.n - party.opened, safe, tape.length(), done.size(), host.bodies(), host.ran()};
         int what = upTo(6);
-        due.is("count " + what, x.count(what), want[what]);
+        is("count " + what, x.count(what), want[what]);
     }
 
     private void of() {
         int what = upTo(8);
         int number = what < 2 ? pair() : upTo(7);
         if (what < 5) {
-            due.is("of " + number + " " + what, x.of(number, what), value(number, what));
+            is("of " + number + " " + what, x.of(number, what), value(number, what));
             return;
         }
         int want = BAD;
@@ -289,7 +297,7 @@ public final class WalkTest {
                 default -> number >= party.opened ? 1 : 0;
             };
         }
-        due.is("of " + number + " " + (what + 5), x.of(number, what + 5), want);
+        is("of " + number + " " + (what + 5), x.of(number, what + 5), want);
     }
 
     private void evening() {
@@ -297,10 +305,10 @@ public final class WalkTest {
         int number = upTo(7);
         boolean is = number < model.n;
         switch (upTo(3)) {
-            case 0 -> due.is("evening 0", x.evening(number, 0), is ? end.has.get(number) : BAD);
-            case 1 -> due.is("evening 1", x.evening(0, 1), end.turns);
-            case 2 -> due.is("evening 2", x.evening(0, 2), model.worths(end));
-            default -> due.is("evening 3", x.evening(number, 3), is ? end.taken[number] : BAD);
+            case 0 -> is("evening 0", x.evening(number, 0), is ? end.has.get(number) : BAD);
+            case 1 -> is("evening 1", x.evening(0, 1), end.turns);
+            case 2 -> is("evening 2", x.evening(0, 2), model.worths(end));
+            default -> is("evening 3", x.evening(number, 3), is ? end.taken[number] : BAD);
         }
     }
 
@@ -316,28 +324,29 @@ public final class WalkTest {
 
     private void shelfStep() {
         int a = upTo(9) - 1;
-        int b = upTo(upTo(1) == 0 ? 60 : 7) - 1;
+        int b = upTo(upTo(3) == 0 ? 61 : 7) - 1;
         int shelf = shelf();
         switch (upTo(11)) {
-            case 0 -> due.is("body " + a, x.body(a), host.body(a));
+            case 0 -> is("body " + a, x.body(a), host.body(a));
             case 1, 2 -> {
                 int act = upTo(5) - 1;
                 int v = (int) bits();
-                due.is("act " + a + " " + act + " " + v, x.act(a, act, v), host.act(a, act, v));
+                is("act " + a + " " + act + " " + v, x.act(a, act, v), host.act(a, act, v));
             }
-            case 3 -> due.is("trace " + a, x.trace(a), host.trace(a));
-            case 4 -> due.is("keep", x.keep(shelf, a), host.keep(shelf, a));
+            case 3 -> is("trace " + a, x.trace(a), host.trace(a));
+            case 4 -> is("keep", x.keep(shelf, a), host.keep(shelf, a));
             case 5 -> {
                 int sort = upTo(2) == 0 ? upTo(6) - 1 : 0;
                 int n = upTo(9) == 0 ? 62 - 2 * upTo(32) : b;
-                due.is("row " + sort + " " + n, x.row(shelf, sort, n), host.row(shelf, sort, n));
+                is("row " + sort + " " + n, x.row(shelf, sort, n), host.row(shelf, sort, n));
             }
             case 6, 7 -> {
                 long v = upTo(1) == 0 ? upTo(3) : bits();
-                due.is("put " + b + " " + v, x.put(shelf, b, v), host.put(shelf, b, v));
+                is("put " + b + " " + v, x.put(shelf, b, v), host.put(shelf, b, v));
+                is("element " + b, x.element(shelf, b), host.element(shelf, b));
             }
-            case 8 -> due.is("element " + b, x.element(shelf, b), host.element(shelf, b));
-            case 9 -> due.is("taken " + a, x.taken(shelf, a), host.taken(shelf, a));
+            case 8 -> is("element " + b, x.element(shelf, b), host.element(shelf, b));
+            case 9 -> is("taken " + a, x.taken(shelf, a), host.taken(shelf, a));
             case 10 -> shift();
             default -> people();
         }
@@ -350,7 +359,7 @@ public final class WalkTest {
         int j = upTo(8) - 1;
         int n = upTo(8) - 1;
         String what = "shift " + shelf + " " + i + " " + other + " " + j + " " + n;
-        due.is(what, x.shift(shelf, i, other, j, n), host.shift(shelf, i, other, j, n));
+        is(what, x.shift(shelf, i, other, j, n), host.shift(shelf, i, other, j, n));
     }
 
     private void people() {
@@ -367,7 +376,7 @@ public final class WalkTest {
             }
         }
         int want = refusal == BAD || n < 1 || n > 7 ? BAD : refusal == -12 ? refusal : hasBegun() ? STATE : came.size();
-        due.is("people " + i + " " + n, x.people(shelf, i, n), want);
+        is("people " + i + " " + n, x.people(shelf, i, n), want);
         for (int k = 0; k < want; k++) {
             model.way[model.n] = came.get(k);
             model.lot.add(model.n);
@@ -386,7 +395,7 @@ public final class WalkTest {
             case 5 -> law();
             case 6 -> exact();
             case 7 -> best();
-            case 8 -> due.is("pairs", x.pairs(), model.pairs());
+            case 8 -> is("pairs", x.pairs(), model.pairs());
             case 9 -> face();
             case 10, 11 -> numbers();
             case 12, 13 -> judge();
@@ -401,7 +410,7 @@ public final class WalkTest {
         int letter = text.isEmpty() || upTo(19) == 0 ? upTo(257) - 1 : text.charAt(0);
         text = text.isEmpty() ? "" : text.substring(1);
         int want = letter < 0 || letter > 255 ? BAD : tape.length() == 120 ? FULL : tape.length() + 1;
-        due.is("feed " + letter, x.feed(letter), want);
+        is("feed " + letter, x.feed(letter), want);
         if (want > 0) {
             tape += (char) letter;
         }
@@ -412,7 +421,7 @@ public final class WalkTest {
 
     private void law() {
         int fault = Model.fault(tape);
-        due.is("law " + tape, x.law(), fault < 0 ? 1 : -100 - fault);
+        is("law " + tape, x.law(), fault < 0 ? 1 : -100 - fault);
         if (fault < 0) {
             model.law = tape;
         }
@@ -423,11 +432,11 @@ public final class WalkTest {
         int person = upTo(5) - 2;
         boolean is = person >= -1 && person < model.n;
         if (!is || model.n > 3 || model.most > 2) {
-            due.is("exact " + person, x.exact(person), is ? STATE : BAD);
+            is("exact " + person, x.exact(person), is ? STATE : BAD);
             return;
         }
         Model.Party end = model.exact(model.begun(model.lot));
-        due.is("exact " + person, x.exact(person), person < 0 ? end.turns : end.has.get(person));
+        is("exact " + person, x.exact(person), person < 0 ? end.turns : end.has.get(person));
     }
 
     private void best() {
@@ -435,13 +444,13 @@ public final class WalkTest {
         boolean is = person >= -1 && person < model.n;
         if (!is || model.n <= 5) {
             List<Integer> best = is ? model.best() : List.of();
-            due.is("best " + person, x.best(person), !is ? BAD : person < 0 ? model.worths(best) : best.get(person));
+            is("best " + person, x.best(person), !is ? BAD : person < 0 ? model.worths(best) : best.get(person));
         }
     }
 
     private void face() {
         int parcel = upTo(8) - 1;
-        due.is("face " + parcel, x.face(parcel), parcel >= 0 && parcel < model.n ? model.face(parcel) : BAD);
+        is("face " + parcel, x.face(parcel), parcel >= 0 && parcel < model.n ? model.face(parcel) : BAD);
     }
 
     private void numbers() {
@@ -449,21 +458,21 @@ public final class WalkTest {
         int n = upTo(9) == 0 ? 31 * upTo(1) : 1 + upTo(6);
         int place = upTo(8) - 2;
         if (n < 1 || n > 30 || place < -1 || place >= model.n) {
-            due.is("numbers " + n + " " + place, x.numbers(seed, n, place), BAD);
+            is("numbers " + n + " " + place, x.numbers(seed, n, place), BAD);
             return;
         }
         int[] sums = model.numbers(seed, n);
         java.util.Arrays.sort(sums);
         int unlike = sums.length == 0 ? 0 : sums[sums.length - 1] - sums[0];
         int want = place < 0 ? unlike : model.numbers(seed, n)[place];
-        due.is("numbers " + seed + " " + n + " " + place, x.numbers(seed, n, place), want);
+        is("numbers " + seed + " " + n + " " + place, x.numbers(seed, n, place), want);
     }
 
     private void judge() {
         int shelf = shelf();
         int refusal = host.refusalOfBytes(shelf);
         int want = refusal != 0 ? refusal : model.judge(model.evening(model.lot), host.bytes(shelf));
-        due.is("judge", x.judge(shelf), want);
+        is("judge", x.judge(shelf), want);
     }
 
     /** By few people alone: the model goes through all lots one by one. */
@@ -471,7 +480,7 @@ public final class WalkTest {
         int shelf = shelf();
         int refusal = host.refusalOfBytes(shelf);
         if (refusal != 0 || model.n <= 5) {
-            due.is("lots", x.lots(shelf), refusal != 0 ? refusal : model.lots(host.bytes(shelf)));
+            is("lots", x.lots(shelf), refusal != 0 ? refusal : model.lots(host.bytes(shelf)));
         }
     }
 }
